@@ -89,12 +89,11 @@ public final class MorphIndex {
         if (size < 1 || size > TEXT_LIMIT || !isWordPart(part) || !isCost(cost)) {
             return NONE;
         }
-        long surface = draft.text(0, size);
-        if (!areCuts(cuts, size) || !lexicon.takes(surface, cuts, base)) {
+        if (!areCuts(cuts, size)) {
             return NONE;
         }
         analysed = false;
-        return lexicon.put(surface, part, cost, cuts, base);
+        return lexicon.put(draft.text(0, size), part, cost, cuts, base);
     }
 
     public boolean rule(int k, int flags, int part, int cost) {
@@ -210,6 +209,7 @@ public final class MorphIndex {
     }
 
     public int match(int from) {
+        analyse();
         int count = readQuery();
         for (int doc = Math.max(from, 0); doc < DOCUMENT_LIMIT; doc++) {
             if (occurrencesIn(doc, count) > 0) {
@@ -220,6 +220,7 @@ public final class MorphIndex {
     }
 
     public int places(int doc) {
+        analyse();
         int count = readQuery();
         return occurrencesIn(doc, count);
     }
@@ -279,7 +280,6 @@ public final class MorphIndex {
 
     /** Answers how many positions the query has; a dropped token leaves a 0 at its position. */
     private int readQuery() {
-        analyse();
         for (int i = 0; i < tokenRow.count(); i++) {
             queryTerms[i] = tokenTerm(i);
         }
@@ -316,8 +316,7 @@ public final class MorphIndex {
             return size >= TEXT_LIMIT ? text : text & ((1L << (8 * size)) - 1);
         }
 
-        static boolean isAllOf(int k, long text) {
-            int size = size(text);
+        static boolean isAllOf(int k, long text, int size) {
             for (int i = 0; i < size; i++) {
                 if (classOf(character(text, i)) != k) {
                     return false;
@@ -338,10 +337,10 @@ public final class MorphIndex {
 
         static long stemmed(long text, int v) {
             int size = size(text);
-            if (size <= v || size == 0 || character(text, size - 1) != STEM_END) {
+            if (size <= v || character(text, size - 1) != STEM_END) {
                 return text;
             }
-            return isAllOf(STEM_CLASS, text) ? first(text, size - 1) : text;
+            return isAllOf(STEM_CLASS, text, size) ? first(text, size - 1) : text;
         }
     }
 
@@ -401,6 +400,7 @@ public final class MorphIndex {
     /** The entries of the dictionary. An entry number NONE stands for an unknown word: no cuts, no base. */
     private static final class Lexicon {
         private final long[] surfaces;
+        private final int[] sizes;
         private final int[] parts;
         private final int[] costs;
         private final int[] cutSets;
@@ -409,6 +409,7 @@ public final class MorphIndex {
 
         Lexicon() {
             surfaces = new long[ENTRY_LIMIT];
+            sizes = new int[ENTRY_LIMIT];
             parts = new int[ENTRY_LIMIT];
             costs = new int[ENTRY_LIMIT];
             cutSets = new int[ENTRY_LIMIT];
@@ -420,19 +421,17 @@ public final class MorphIndex {
             return count;
         }
 
-        boolean takes(long surface, int cuts, int base) {
-            if (count >= ENTRY_LIMIT || base < NONE || base >= count) {
-                return false;
-            }
-            if (cuts != 0 && base != NONE) {
-                return false;
-            }
-            return sameSurfaces(surface) < SAME_SURFACE_LIMIT;
-        }
-
+        /** Answers the number of the new entry, or NONE when it is refused. */
         int put(long surface, int part, int cost, int cuts, int base) {
+            if (count >= ENTRY_LIMIT || base < NONE || base >= count) {
+                return NONE;
+            }
+            if ((cuts != 0 && base != NONE) || sameSurfaces(surface) >= SAME_SURFACE_LIMIT) {
+                return NONE;
+            }
             int entry = count;
             surfaces[entry] = surface;
+            sizes[entry] = Texts.size(surface);
             parts[entry] = part;
             costs[entry] = cost;
             cutSets[entry] = cuts;
@@ -443,11 +442,11 @@ public final class MorphIndex {
 
         /** Whether the surface of the entry begins the text: zero bytes behind a short text match no surface. */
         boolean begins(int entry, long text) {
-            return Texts.first(text, size(entry)) == surfaces[entry];
+            return Texts.first(text, sizes[entry]) == surfaces[entry];
         }
 
         int size(int entry) {
-            return Texts.size(surfaces[entry]);
+            return sizes[entry];
         }
 
         int part(int entry) {
@@ -587,6 +586,9 @@ public final class MorphIndex {
                     putUnknownOf(place, 1);
                 }
             }
+            for (int node = 0; node < count; node++) {
+                charges[node] = charge(node);
+            }
         }
 
         int count() {
@@ -658,22 +660,24 @@ public final class MorphIndex {
             lengths[count] = length;
             parts[count] = part;
             costs[count] = cost;
-            charges[count] = charge(begin, length, entry);
             entries[count] = entry;
             count++;
         }
 
-        private int charge(int begin, int length, int entry) {
-            if (lexicon.cuts(entry) != 0) {
+        private int charge(int node) {
+            if (lexicon.cuts(entries[node]) != 0) {
                 return 0;
             }
-            return grammar.charge(length, Texts.isAllOf(HAN_CLASS, draft.text(begin, length)));
+            int length = lengths[node];
+            long text = draft.text(begins[node], length);
+            return grammar.charge(length, Texts.isAllOf(HAN_CLASS, text, length));
         }
     }
 
     /** The path of least cost through the lattice, with charges (the best path) or without (the plain one). */
     private static final class Route {
-        private static final int UNREACHED = Integer.MAX_VALUE;
+        /** Far above the cost of any path. */
+        private static final int UNREACHED = 1000000000;
 
         private final Lattice lattice;
         private final Grammar grammar;
@@ -1074,6 +1078,9 @@ public final class MorphIndex {
         }
 
         int put(Document document) {
+            if (!hasRoom()) {
+                return NONE;
+            }
             int number = count;
             documents[number] = document;
             waiting |= 1L << number;

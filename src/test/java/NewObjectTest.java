@@ -40,6 +40,27 @@ public final class NewObjectTest {
             checks.due("new term of class " + k, x.term(8), starts[k]);
         }
         linksAreZero(checks);
+        modeIsZero(checks);
+        snapshotIsEmpty(checks);
+    }
+
+    private static void modeIsZero(Checks checks) {
+        int[] starts = {1, 64, 128, 192};
+        for (int k = 0; k < starts.length; k++) {
+            MorphIndex x = new MorphIndex();
+            x.rule(k, 2, 1, 3);
+            Checks.draft(x, Checks.repeated(starts[k], 8));
+            checks.due("new charge of class " + k, x.cost(), 3);
+        }
+    }
+
+    private static void snapshotIsEmpty(Checks checks) {
+        MorphIndex x = new MorphIndex();
+        x.type(65);
+        x.add();
+        x.flush();
+        checks.due("match(0) of the new snapshot", x.match(0), -1);
+        checks.due("places(0) of the new snapshot", x.places(0), 0);
     }
 
     private static void linksAreZero(Checks checks) {
