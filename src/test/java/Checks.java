@@ -1,3 +1,6 @@
+import java.util.Arrays;
+import java.util.function.IntPredicate;
+
 /** Counts the answers of one test that are not as due; a test ends with finish(). */
 final class Checks {
     private int made = 0;
@@ -13,6 +16,40 @@ final class Checks {
 
     void due(String call, boolean got, boolean want) {
         due(call, got ? 1 : 0, want ? 1 : 0);
+    }
+
+    /** On both sides of each limit: the last values that are taken and the first that are refused. */
+    void dueRange(String name, int least, int most, IntPredicate taken) {
+        for (int value : new int[] {least, least + 1, most - 1, most}) {
+            due(name + " " + value + " is taken", taken.test(value), true);
+        }
+        for (int value : new int[] {least - 1, most + 1, Integer.MIN_VALUE, Integer.MAX_VALUE}) {
+            due(name + " " + value + " is taken", taken.test(value), false);
+        }
+    }
+
+    /** The answers of token(i, 0), token(i, 1), .. */
+    void dueToken(String name, MorphIndex x, int i, int... due) {
+        for (int what = 0; what < due.length; what++) {
+            due(name + ": token(" + i + ", " + what + ")", x.token(i, what), due[what]);
+        }
+    }
+
+    /** The lengths of all tokens, in their order. */
+    void dueLengths(String name, MorphIndex x, int... lengths) {
+        due(name + ": tokens()", x.tokens(), lengths.length);
+        for (int i = 0; i < lengths.length; i++) {
+            due(name + ": token(" + i + ", 1)", x.token(i, 1), lengths[i]);
+        }
+    }
+
+    /** The sizes of all segments, in their order. */
+    void dueSegments(String name, MorphIndex x, int... sizes) {
+        due(name + ": segment(-1)", x.segment(-1), sizes.length);
+        for (int i = 0; i < sizes.length; i++) {
+            due(name + ": segment(" + i + ")", x.segment(i), sizes[i]);
+        }
+        due(name + ": none behind", x.segment(sizes.length), -1);
     }
 
     void finish() {
@@ -36,13 +73,32 @@ final class Checks {
         x.type(0);
         for (int from = 0; from < characters.length; from += 8) {
             int to = Math.min(from + 8, characters.length);
-            x.type(text(java.util.Arrays.copyOfRange(characters, from, to)));
+            x.type(text(Arrays.copyOfRange(characters, from, to)));
         }
+    }
+
+    /** A new object whose draft is these characters. */
+    static MorphIndex drafted(int... characters) {
+        MorphIndex x = new MorphIndex();
+        draft(x, characters);
+        return x;
+    }
+
+    /** The draft becomes this surface and a new entry without cuts and base: its number. */
+    static int enter(MorphIndex x, int part, int cost, int... surface) {
+        draft(x, surface);
+        return x.word(part, cost, 0, -1);
+    }
+
+    /** The draft becomes these characters and a new document: its number. */
+    static int addDraft(MorphIndex x, int... characters) {
+        draft(x, characters);
+        return x.add();
     }
 
     static int[] repeated(int character, int times) {
         int[] characters = new int[times];
-        java.util.Arrays.fill(characters, character);
+        Arrays.fill(characters, character);
         return characters;
     }
 }
