@@ -22,14 +22,6 @@ public final class IndexTest {
         x.flush();
     }
 
-    private static void dueSegments(Checks checks, String when, MorphIndex x, int... sizes) {
-        checks.due(when + ": segment(-1)", x.segment(-1), sizes.length);
-        for (int i = 0; i < sizes.length; i++) {
-            checks.due(when + ": segment(" + i + ")", x.segment(i), sizes[i]);
-        }
-        checks.due(when + ": none behind", x.segment(sizes.length), -1);
-    }
-
     private static void addsDocuments(Checks checks) {
         MorphIndex x = new MorphIndex();
         checks.due("add() of the empty draft", x.add(), -1);
@@ -82,7 +74,7 @@ public final class IndexTest {
         checks.due("drop after it was dropped waiting", x.drop(0), false);
         checks.due("drop of one that lies", x.drop(1), true);
         checks.due("drop of it again", x.drop(1), false);
-        dueSegments(checks, "it still lies there", x, 1);
+        checks.dueSegments("it still lies there", x, 1);
         checks.due("open()", x.open(), 0);
     }
 
@@ -93,16 +85,16 @@ public final class IndexTest {
         x.add();
         x.drop(0);
         checks.due("flush() of dropped ones", x.flush(), -1);
-        dueSegments(checks, "no segment of dropped ones", x);
+        checks.dueSegments("no segment of dropped ones", x);
         x.add();
         x.add();
         x.type(67);
         x.add();
         x.drop(1);
         checks.due("flush() of two", x.flush(), 5);
-        dueSegments(checks, "one segment", x, 2);
+        checks.dueSegments("one segment", x, 2);
         checks.due("flush() again", x.flush(), -1);
-        dueSegments(checks, "still one segment", x, 2);
+        checks.dueSegments("still one segment", x, 2);
     }
 
     private static void countsPostings(Checks checks) {
@@ -155,18 +147,18 @@ public final class IndexTest {
         addFlushed(x, 3);
         addFlushed(x, 2);
         addFlushed(x, 1);
-        dueSegments(checks, "three segments", x, 3, 2, 1);
+        checks.dueSegments("three segments", x, 3, 2, 1);
         x.add();
         checks.due("flush() with a merge of the last two", x.flush(), 1 + 2);
-        dueSegments(checks, "the last two merged", x, 3, 2, 2);
+        checks.dueSegments("the last two merged", x, 3, 2, 2);
         addFlushed(x, 4);
-        dueSegments(checks, "the middle two merged", x, 3, 4, 4);
+        checks.dueSegments("the middle two merged", x, 3, 4, 4);
         x.add();
         checks.due("flush() of one behind 3, 4, 4", x.flush(), 1 + 5);
-        dueSegments(checks, "the new one merged", x, 3, 4, 5);
+        checks.dueSegments("the new one merged", x, 3, 4, 5);
         x.type(66);
         addFlushed(x, 4);
-        dueSegments(checks, "the first two merged", x, 7, 5, 4);
+        checks.dueSegments("the first two merged", x, 7, 5, 4);
     }
 
     private static void mergesTheForemostOfEquals(Checks checks) {
@@ -176,9 +168,9 @@ public final class IndexTest {
         addFlushed(x, 2);
         addFlushed(x, 1);
         addFlushed(x, 2);
-        dueSegments(checks, "the foremost of three", x, 3, 1, 2);
+        checks.dueSegments("the foremost of three", x, 3, 1, 2);
         addFlushed(x, 1);
-        dueSegments(checks, "the foremost of two", x, 3, 3, 1);
+        checks.dueSegments("the foremost of two", x, 3, 3, 1);
     }
 
     private static void mergesWithoutDropped(Checks checks) {
@@ -190,12 +182,12 @@ public final class IndexTest {
         x.drop(0);
         x.drop(1);
         x.drop(2);
-        dueSegments(checks, "dropped ones still lie there", x, 2, 2, 1);
+        checks.dueSegments("dropped ones still lie there", x, 2, 2, 1);
         x.add();
         checks.due("dropped ones count for the choice", x.flush(), 3 + 6);
-        dueSegments(checks, "the last two merged", x, 2, 2, 2);
+        checks.dueSegments("the last two merged", x, 2, 2, 2);
         addFlushed(x, 4);
-        dueSegments(checks, "the first two, with one left", x, 1, 2, 4);
+        checks.dueSegments("the first two, with one left", x, 1, 2, 4);
         checks.due("drop of one that is gone", x.drop(0), false);
         checks.due("open()", x.open(), 7);
     }
@@ -211,10 +203,10 @@ public final class IndexTest {
         x.add();
         x.add();
         checks.due("flush() with a merge to nothing", x.flush(), 4);
-        dueSegments(checks, "both are gone", x, 4, 2);
+        checks.dueSegments("both are gone", x, 4, 2);
         x.add();
         checks.due("flush() without a merge", x.flush(), 2);
-        dueSegments(checks, "three again", x, 4, 2, 1);
+        checks.dueSegments("three again", x, 4, 2, 1);
     }
 
     private static void refusesWrongSegments(Checks checks) {

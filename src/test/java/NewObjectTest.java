@@ -4,6 +4,8 @@ public final class NewObjectTest {
         Checks checks = new Checks();
         startsEmpty(checks);
         startsWithPlainRulesAndLinks(checks);
+        invokesNothing(checks);
+        hasRoomForAll(checks);
         objectsAreApart(checks);
         checks.finish();
     }
@@ -42,6 +44,36 @@ public final class NewObjectTest {
         linksAreZero(checks);
         modeIsZero(checks);
         snapshotIsEmpty(checks);
+    }
+
+    /** "at first no, no, 0": where a known node stands no class puts an unknown one. */
+    private static void invokesNothing(Checks checks) {
+        int[] starts = {1, 64, 128, 192};
+        for (int k = 0; k < starts.length; k++) {
+            MorphIndex x = new MorphIndex();
+            Checks.enter(x, 2, 9, starts[k], starts[k]);
+            checks.due("new nodes() at a known one of class " + k, x.nodes(), 1 + 1);
+            checks.due("new cost() of a known one of class " + k, x.cost(), 9);
+        }
+    }
+
+    /** "no entries", "an empty chain", "no documents, no segments": all of the room is free. */
+    private static void hasRoomForAll(Checks checks) {
+        MorphIndex x = new MorphIndex();
+        checks.due("the first three types", x.type(-1) && x.type(-1) && x.type(-1), true);
+        checks.due("the fourth type", x.type(1), false);
+        for (int i = 0; i < 6; i++) {
+            checks.due("filter " + i, x.chain(1, 0), true);
+        }
+        for (int i = 0; i < 40; i++) {
+            checks.due("entry " + i, Checks.enter(x, 1, 0, 1 + i), i);
+        }
+        for (int doc = 0; doc < 4; doc++) {
+            checks.due("document " + doc, x.add(), doc);
+        }
+        checks.due("segments before the first flush()", x.segment(-1), 0);
+        checks.due("the first flush()", x.flush(), 4);
+        checks.due("segments after it", x.segment(-1), 1);
     }
 
     private static void modeIsZero(Checks checks) {

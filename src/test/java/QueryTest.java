@@ -14,17 +14,12 @@ public final class QueryTest {
         checks.finish();
     }
 
-    private static void addDraft(MorphIndex x, int... characters) {
-        Checks.draft(x, characters);
-        x.add();
-    }
-
     private static void opensWhatLies(Checks checks) {
         MorphIndex x = new MorphIndex();
         checks.due("open() of none", x.open(), 0);
-        addDraft(x, 65);
-        addDraft(x, 65);
-        addDraft(x, 65);
+        Checks.addDraft(x, 65);
+        Checks.addDraft(x, 65);
+        Checks.addDraft(x, 65);
         checks.due("open() of those that wait", x.open(), 0);
         x.flush();
         checks.due("match before open()", x.match(0), -1);
@@ -39,16 +34,16 @@ public final class QueryTest {
 
     private static void keepsTheSnapshot(Checks checks) {
         MorphIndex x = new MorphIndex();
-        addDraft(x, 65);
+        Checks.addDraft(x, 65);
         x.flush();
-        addDraft(x, 65);
+        Checks.addDraft(x, 65);
         x.flush();
         x.open();
         x.drop(0);
         checks.due("dropped since, still matched", x.match(0), 0);
         checks.due("dropped since, still places", x.places(0), 1);
         for (int i = 0; i < 3; i++) {
-            addDraft(x, 65);
+            Checks.addDraft(x, 65);
             x.flush();
         }
         checks.due("merged away, still matched", x.match(0), 0);
@@ -69,7 +64,7 @@ public final class QueryTest {
         MorphIndex x = new MorphIndex();
         int[][] drafts = {{65}, {66}, {65}, {67}};
         for (int[] draft : drafts) {
-            addDraft(x, draft);
+            Checks.addDraft(x, draft);
         }
         x.flush();
         x.open();
@@ -89,8 +84,8 @@ public final class QueryTest {
 
     private static void countsPlaces(Checks checks) {
         MorphIndex x = new MorphIndex();
-        addDraft(x, Checks.repeated(65, 24));
-        addDraft(x, 65, 66, 65, 66, 65);
+        Checks.addDraft(x, Checks.repeated(65, 24));
+        Checks.addDraft(x, 65, 66, 65, 66, 65);
         x.flush();
         x.open();
         Checks.draft(x, 65);
@@ -107,9 +102,9 @@ public final class QueryTest {
 
     private static void looksForPhrases(Checks checks) {
         MorphIndex x = new MorphIndex();
-        addDraft(x, 65, 66, 67);
-        addDraft(x, 66, 65, 67);
-        addDraft(x, 67, 65, 66);
+        Checks.addDraft(x, 65, 66, 67);
+        Checks.addDraft(x, 66, 65, 67);
+        Checks.addDraft(x, 67, 65, 66);
         x.flush();
         x.open();
         Checks.draft(x, 65, 66);
@@ -129,9 +124,9 @@ public final class QueryTest {
         Checks.draft(x, 90);
         x.word(2, 0, 0, -1);
         x.chain(0, 2);
-        addDraft(x, 65, 90, 66);
-        addDraft(x, 65, 66);
-        addDraft(x, 65, 67, 66);
+        Checks.addDraft(x, 65, 90, 66);
+        Checks.addDraft(x, 65, 66);
+        Checks.addDraft(x, 65, 67, 66);
         x.flush();
         checks.due("open()", x.open(), 3);
         Checks.draft(x, 65, 90, 66);
@@ -156,7 +151,7 @@ public final class QueryTest {
         x.word(3, 1, 0, -1);
         x.rule(1, 5, 1, 1);
         x.mode(10, 0);
-        addDraft(x, 68, 65, 66, 67, 68);
+        Checks.addDraft(x, 68, 65, 66, 67, 68);
         checks.due("flush() with a compound", x.flush(), 6);
         x.open();
         Checks.draft(x, 65, 66, 67);
@@ -174,7 +169,7 @@ public final class QueryTest {
 
     private static void asksWithoutCompounds(Checks checks) {
         MorphIndex x = new MorphIndex();
-        addDraft(x, 65, 66, 67);
+        Checks.addDraft(x, 65, 66, 67);
         x.flush();
         x.open();
         x.word(3, 1, 0, -1);
@@ -186,7 +181,7 @@ public final class QueryTest {
 
     private static void keepsThePostings(Checks checks) {
         MorphIndex x = new MorphIndex();
-        addDraft(x, 193, 65);
+        Checks.addDraft(x, 193, 65);
         x.chain(2, 0);
         x.word(4, -9, 0, -1);
         x.flush();
@@ -203,7 +198,7 @@ public final class QueryTest {
 
     private static void findsNothingWithoutTerms(Checks checks) {
         MorphIndex x = new MorphIndex();
-        addDraft(x, 65, 66);
+        Checks.addDraft(x, 65, 66);
         x.flush();
         x.open();
         x.type(0);

@@ -7,6 +7,7 @@ import java.util.Random;
 public final class RandomRunsTest {
     private static final int RUNS = 400;
     private static final int CALLS = 512;
+    private static final int MOST_OF_ONE_STEP = 30;
     private static final int[] ALPHABET = {65, 66, 65, 66, 67, 129, 191, 193, 255, 1};
     private static final int[] EDGES = {-10001, -10000, -1, 0, 1, 7, 8, 10000, 10001,
         Integer.MIN_VALUE, Integer.MAX_VALUE};
@@ -37,7 +38,7 @@ public final class RandomRunsTest {
     }
 
     private void run() {
-        while (calls < CALLS - 60) {
+        while (calls < CALLS - MOST_OF_ONE_STEP) {
             int pick = random.nextInt(20);
             if (pick < 5) {
                 change();
@@ -48,6 +49,9 @@ public final class RandomRunsTest {
             } else {
                 useIndex();
             }
+        }
+        while (calls < CALLS) {
+            due("tokens()", x.tokens(), y.tokens());
         }
     }
 

@@ -43,13 +43,17 @@ public final class RoomTest {
     }
 
     private static void readsMakeNothing(Checks checks) {
-        MorphIndex x = dearest();
-        x.chain(2, 0);
-        x.chain(3, 1);
-        x.add();
-        x.flush();
-        x.open();
+        MorphIndex[] objects = new MorphIndex[20];
+        for (int i = 0; i < objects.length; i++) {
+            objects[i] = dearest();
+            objects[i].chain(2, 0);
+            objects[i].chain(3, 1);
+            objects[i].add();
+            objects[i].flush();
+            objects[i].open();
+        }
         IntConsumer reads = i -> {
+            MorphIndex x = objects[i % objects.length];
             x.mode(i, i);
             x.cost();
             x.paths();
@@ -63,7 +67,7 @@ public final class RoomTest {
             x.open();
         };
         reads.accept(0);
-        checks.due("reading calls make nothing", bytesOf(512, reads) < SLACK, true);
+        checks.due("reading calls make nothing", bytesOf(500, reads) < SLACK, true);
     }
 
     private static void documentsAreSmall(Checks checks) {

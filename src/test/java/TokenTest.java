@@ -16,12 +16,6 @@ public final class TokenTest {
         checks.finish();
     }
 
-    private static void dueToken(Checks checks, MorphIndex x, int i, int... due) {
-        for (int what = 0; what < due.length; what++) {
-            checks.due("token(" + i + ", " + what + ")", x.token(i, what), due[what]);
-        }
-    }
-
     private static void enter(MorphIndex x, int part, int cost, int cuts, int... surface) {
         Checks.draft(x, surface);
         x.word(part, cost, cuts, -1);
@@ -40,7 +34,7 @@ public final class TokenTest {
         for (int what : whats) {
             checks.due("token(0, " + what + ")", x.token(0, what), -1);
         }
-        dueToken(checks, x, 1, 1, 1, 1, 100, 0);
+        checks.dueToken("of the draft", x, 1, 1, 1, 1, 100, 0);
     }
 
     private static void takesTheLongerFromTheEnd(Checks checks) {
@@ -49,26 +43,26 @@ public final class TokenTest {
         enter(x, 1, 0, 0, 65, 65);
         Checks.draft(x, 65, 65, 65);
         checks.due("tokens of equal paths", x.tokens(), 2);
-        dueToken(checks, x, 0, 0, 1, 1, 0, 0);
-        dueToken(checks, x, 1, 1, 2, 1, 1, 0);
+        checks.dueToken("of the draft", x, 0, 0, 1, 1, 0, 0);
+        checks.dueToken("of the draft", x, 1, 1, 2, 1, 1, 0);
         enter(x, 1, 0, 0, 65, 65, 65);
         checks.due("the longest last node", x.tokens(), 1);
         x.rule(1, 17, 1, 0);
         Checks.draft(x, 65, 65, 65, 65, 65);
-        dueToken(checks, x, 1, 1, 4, 1, 101, 0);
+        checks.dueToken("of the draft", x, 1, 1, 4, 1, 101, 0);
     }
 
     private static void takesKnownBeforeUnknown(Checks checks) {
         MorphIndex x = new MorphIndex();
         x.rule(1, 9, 3, 0);
         enter(x, 4, 0, 0, 65, 66);
-        dueToken(checks, x, 0, 0, 2, 4, 0, 0);
+        checks.dueToken("of the draft", x, 0, 0, 2, 4, 0, 0);
         checks.due("both are paths, and the two singles", x.paths(), 3);
         Checks.draft(x, 65, 66, 9);
-        dueToken(checks, x, 0, 0, 2, 4, 0, 0);
-        dueToken(checks, x, 1, 2, 1, 1, 100, 0);
+        checks.dueToken("of the draft", x, 0, 0, 2, 4, 0, 0);
+        checks.dueToken("of the draft", x, 1, 2, 1, 1, 100, 0);
         x.link(4, 1, 1);
-        dueToken(checks, x, 0, 0, 2, 3, 101, 0);
+        checks.dueToken("of the draft", x, 0, 0, 2, 3, 101, 0);
     }
 
     private static void takesTheLowerEntry(Checks checks) {
@@ -76,14 +70,14 @@ public final class TokenTest {
         enter(x, 5, 1, 0, 65);
         enter(x, 6, 0, 0, 65);
         enter(x, 7, 0, 0, 65);
-        dueToken(checks, x, 0, 0, 1, 6, 1, 0);
+        checks.dueToken("of the draft", x, 0, 0, 1, 6, 1, 0);
         Checks.draft(x, 65, 65);
-        dueToken(checks, x, 0, 0, 1, 6, 1, 0);
-        dueToken(checks, x, 1, 1, 1, 6, 1, 0);
+        checks.dueToken("of the draft", x, 0, 0, 1, 6, 1, 0);
+        checks.dueToken("of the draft", x, 1, 1, 1, 6, 1, 0);
         x.link(6, 6, 3);
         checks.due("least of the others", x.cost(), 0);
-        dueToken(checks, x, 0, 0, 1, 7, 2, 0);
-        dueToken(checks, x, 1, 1, 1, 6, 1, 0);
+        checks.dueToken("of the draft", x, 0, 0, 1, 7, 2, 0);
+        checks.dueToken("of the draft", x, 1, 1, 1, 6, 1, 0);
     }
 
     private static void cutsEntries(Checks checks) {
@@ -91,11 +85,11 @@ public final class TokenTest {
         enter(x, 3, 0, 2 + 16, 1, 65, 129, 193, 2, 66);
         Checks.draft(x, 9, 1, 65, 129, 193, 2, 66, 9);
         checks.due("tokens with cuts", x.tokens(), 5);
-        dueToken(checks, x, 0, 0, 1, 1, 100, 0);
-        dueToken(checks, x, 1, 1, 1, 3, 0, 0);
-        dueToken(checks, x, 2, 2, 3, 3, 0, 0);
-        dueToken(checks, x, 3, 5, 2, 3, 0, 0);
-        dueToken(checks, x, 4, 7, 1, 1, 100, 0);
+        checks.dueToken("of the draft", x, 0, 0, 1, 1, 100, 0);
+        checks.dueToken("of the draft", x, 1, 1, 1, 3, 0, 0);
+        checks.dueToken("of the draft", x, 2, 2, 3, 3, 0, 0);
+        checks.dueToken("of the draft", x, 3, 5, 2, 3, 0, 0);
+        checks.dueToken("of the draft", x, 4, 7, 1, 1, 100, 0);
     }
 
     /** Without charges "ABC" is one word; with them "AB" and "C" are cheaper. */
@@ -111,12 +105,12 @@ public final class TokenTest {
         MorphIndex x = withLongWord();
         Checks.draft(x, 67, 65, 66, 67);
         checks.due("tokens without charges", x.tokens(), 2);
-        dueToken(checks, x, 1, 1, 3, 3, 2, 0);
+        checks.dueToken("of the draft", x, 1, 1, 3, 3, 2, 0);
         x.mode(6, 0);
         checks.due("tokens with charges", x.tokens(), 3);
-        dueToken(checks, x, 0, 0, 1, 2, 1, 0);
-        dueToken(checks, x, 1, 1, 2, 1, 0, 3);
-        dueToken(checks, x, 2, 3, 1, 2, 1, 0);
+        checks.dueToken("of the draft", x, 0, 0, 1, 2, 1, 0);
+        checks.dueToken("of the draft", x, 1, 1, 2, 1, 0, 3);
+        checks.dueToken("of the draft", x, 2, 3, 1, 2, 1, 0);
         x.mode(5, 0);
         checks.due("equal costs: the longer", x.tokens(), 2);
         x.mode(0, 0);
@@ -125,8 +119,8 @@ public final class TokenTest {
         checks.due("an unknown run", x.tokens(), 1);
         x.mode(0, 30);
         checks.due("an unknown run in singles", x.tokens(), 3);
-        dueToken(checks, x, 0, 0, 1, 1, 102, 6);
-        dueToken(checks, x, 1, 1, 1, 1, 102, 0);
+        checks.dueToken("of the draft", x, 0, 0, 1, 1, 102, 6);
+        checks.dueToken("of the draft", x, 1, 1, 1, 1, 102, 0);
     }
 
     private static void findsNoCompoundAcrossTokens(Checks checks) {
@@ -140,8 +134,8 @@ public final class TokenTest {
         checks.due("the plain path", x.tokens(), 2);
         x.mode(100, 0);
         checks.due("the best path", x.tokens(), 3);
-        dueToken(checks, x, 0, 0, 1, 1, 2, 0);
-        dueToken(checks, x, 2, 2, 2, 1, 4, 0);
+        checks.dueToken("of the draft", x, 0, 0, 1, 1, 2, 0);
+        checks.dueToken("of the draft", x, 2, 2, 2, 1, 4, 0);
         Checks.draft(x, 68, 65, 66, 67);
         checks.due("it ends where the unknown token ends", x.token(1, 4), 3);
     }
@@ -162,18 +156,18 @@ public final class TokenTest {
         x.rule(1, 0, 1, 1);
         Checks.draft(x, 65, 66, 67, 68);
         checks.due("tokens of the second draft", x.tokens(), 2);
-        dueToken(checks, x, 0, 0, 2, 1, 1, 0);
-        dueToken(checks, x, 1, 2, 2, 1, 2, 0);
+        checks.dueToken("of the draft", x, 0, 0, 2, 1, 1, 0);
+        checks.dueToken("of the draft", x, 1, 2, 2, 1, 2, 0);
     }
 
     private static void findsNoCompoundWithCuts(Checks checks) {
         MorphIndex x = new MorphIndex();
         enter(x, 1, 0, 2, 65, 66);
         checks.due("pieces", x.tokens(), 2);
-        dueToken(checks, x, 0, 0, 1, 1, 0, 0);
+        checks.dueToken("of the draft", x, 0, 0, 1, 1, 0, 0);
         enter(x, 2, -1, 0, 65, 66);
         checks.due("the cheaper without cuts", x.tokens(), 1);
-        dueToken(checks, x, 0, 0, 2, 2, 1, 0);
+        checks.dueToken("of the draft", x, 0, 0, 2, 2, 1, 0);
     }
 
     private static void findsCompoundsOverCuts(Checks checks) {
@@ -183,8 +177,8 @@ public final class TokenTest {
         checks.due("one token", x.tokens(), 1);
         x.mode(2, 0);
         checks.due("pieces of the one with cuts", x.tokens(), 2);
-        dueToken(checks, x, 0, 0, 2, 1, 0, 3);
-        dueToken(checks, x, 1, 2, 1, 1, 0, 0);
+        checks.dueToken("of the draft", x, 0, 0, 2, 1, 0, 3);
+        checks.dueToken("of the draft", x, 1, 2, 1, 1, 0, 0);
     }
 
     private static void comesAnewAfterChanges(Checks checks) {
