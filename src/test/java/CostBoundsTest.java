@@ -17,6 +17,7 @@ public final class CostBoundsTest {
         dearestPathIsCounted(checks);
         cheapestPathIsCounted(checks);
         pathsOfLeastCostAloneCount(checks);
+        chargesCountForThePaths(checks);
         mostPathsAreCounted(checks);
         checks.finish();
     }
@@ -265,6 +266,20 @@ public final class CostBoundsTest {
         Checks.draft(x, 65, 65, 65);
         checks.due("paths of three characters", x.paths(), 4);
         checks.due("cost of three characters", x.cost(), 2);
+    }
+
+    /** The least cost is that with the charges: 1 less or more of them, and the paths are others. */
+    private static void chargesCountForThePaths(Checks checks) {
+        MorphIndex x = new MorphIndex();
+        Checks.enter(x, 1, 1, 65);
+        Checks.enter(x, 2, 0, 65, 65, 65);
+        int[][] due = {{0, 0, 1}, {1, 1, 1}, {2, 2, 1}, {3, 3, 2}, {4, 3, 1}, {10000, 3, 1}};
+        for (int[] d : due) {
+            x.mode(d[0], 0);
+            checks.due("cost with HAN " + d[0], x.cost(), d[1]);
+            checks.due("paths with HAN " + d[0], x.paths(), d[2]);
+            checks.due("tokens with HAN " + d[0], x.tokens(), d[0] > 3 ? 3 : 1);
+        }
     }
 
     /** The most paths there can be: every length three times known and, as far as it goes, unknown. */

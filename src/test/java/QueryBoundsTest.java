@@ -16,6 +16,7 @@ public final class QueryBoundsTest {
         droppedTermsKeepTheirDistance(checks);
         firstTermMayStandBeforeWhatTheQueryHas(checks);
         compoundsAreFoundButNotAsked(checks);
+        compoundsAreFiltered(checks);
         termsOfEightCharacters(checks);
         checks.finish();
     }
@@ -266,7 +267,7 @@ public final class QueryBoundsTest {
         }
     }
 
-    /** "where f is the position of its first term": dropped ones before it need no room in the text, nor those behind. */
+    /** "where f is the position of its first term": dropped ones before and behind it need no room in the text. */
     private static void firstTermMayStandBeforeWhatTheQueryHas(Checks checks) {
         MorphIndex x = new MorphIndex();
         Checks.enter(x, 2, 0, 90);
@@ -305,6 +306,36 @@ public final class QueryBoundsTest {
         checks.due("it is found as a compound", x.places(1), 1);
         Checks.draft(x, 65, 65);
         checks.due("two of the three tokens", x.places(1), 2);
+    }
+
+    /** "The TERM of a token or compound": each filter, on a compound of 5 characters of class 3 and part 2. */
+    private static void compoundsAreFiltered(Checks checks) {
+        int[][] chains = {{}, {2, 0}, {2, 0, 3, 4}, {2, 0, 3, 5}, {3, 4, 2, 0}, {0, 2}, {0, 1}, {1, 0}};
+        int[][] found = {{200, 200, 200, 200, 255}, {136, 136, 136, 136, 191}, {136, 136, 136, 136},
+            {136, 136, 136, 136, 191}, {136, 136, 136, 136, 191}, {}, {200, 200, 200, 200, 255}, {66, 67}};
+        int[] postings = {6, 6, 6, 6, 6, 5, 1, 6};
+        for (int i = 0; i < chains.length; i++) {
+            MorphIndex x = new MorphIndex();
+            Checks.enter(x, 3, 0, 66, 67);
+            Checks.draft(x, 200, 200, 200, 200, 255);
+            x.word(2, 1, 0, 0);
+            x.rule(3, 5, 1, 1);
+            x.mode(0, 10000);
+            for (int f = 0; f < chains[i].length; f += 2) {
+                x.chain(chains[i][f], chains[i][f + 1]);
+            }
+            checks.due("the compound before filters " + i, x.token(0, 4), 5);
+            x.add();
+            checks.due("postings with filters " + i, x.flush(), postings[i]);
+            x.open();
+            x.chain(-1, 0);
+            x.mode(0, 0);
+            Checks.draft(x, found[i]);
+            if (found[i].length > 0) {
+                x.word(4, -1, 0, -1);
+            }
+            checks.due("the compound's term with filters " + i, x.places(0), found[i].length > 0 ? 1 : 0);
+        }
     }
 
     /** Terms of 8 characters from 128 on are numbers below 0 as a long. */

@@ -15,6 +15,8 @@ public final class TokenBoundsTest {
         knownIsTakenBeforeUnknown(checks);
         lowerEntryIsTaken(checks);
         cheaperIsTakenBeforeAllThese(checks);
+        linksChooseEveryNode(checks);
+        unreachedNodesAreNeverTaken(checks);
         checks.finish();
     }
 
@@ -198,5 +200,45 @@ public final class TokenBoundsTest {
         x.link(0, 1, 0);
         x.link(2, 3, 2);
         checks.dueLengths("one cheaper by 1", x, 2);
+    }
+
+    /** A dear link between any two neighbours changes the node before it, not only the last one of the path. */
+    private static void linksChooseEveryNode(Checks checks) {
+        MorphIndex x = new MorphIndex();
+        Checks.enter(x, 1, 0, 65);
+        Checks.enter(x, 2, 2, 65);
+        Checks.enter(x, 3, 0, 66);
+        Checks.enter(x, 4, 1, 66);
+        Checks.draft(x, 65, 66, 65, 66);
+        dueEntries(checks, "no links", x, 0, 2, 0, 2);
+        x.link(1, 3, 3);
+        dueEntries(checks, "another second behind the first", x, 0, 3, 0, 3);
+        x.link(1, 4, 3);
+        dueEntries(checks, "another first before the second", x, 1, 2, 1, 2);
+        x.link(3, 1, 5);
+        x.link(3, 2, 5);
+        dueEntries(checks, "another second before the third", x, 1, 3, 1, 2);
+    }
+
+    private static void dueEntries(Checks checks, String name, MorphIndex x, int... entries) {
+        checks.due(name + ": tokens()", x.tokens(), entries.length);
+        for (int i = 0; i < entries.length; i++) {
+            checks.due(name + ": token(" + i + ", 3)", x.token(i, 3), entries[i]);
+        }
+    }
+
+    /** An unreached node is in no path, though a node of the same number was in that of the draft before. */
+    private static void unreachedNodesAreNeverTaken(Checks checks) {
+        MorphIndex x = new MorphIndex();
+        Checks.enter(x, 1, 0, 65, 66);
+        Checks.enter(x, 1, 0, 66, 67);
+        Checks.enter(x, 1, 0, 67);
+        Checks.enter(x, 1, 0, 68);
+        Checks.draft(x, 68, 66, 67);
+        checks.dueLengths("reached", x, 1, 2);
+        Checks.draft(x, 65, 66, 67);
+        checks.dueLengths("not reached", x, 2, 1);
+        Checks.draft(x, 68, 66, 67);
+        checks.dueLengths("reached again", x, 1, 2);
     }
 }
