@@ -15,6 +15,7 @@ public final class IndexBoundsTest {
         flushAnswersTheNewSegmentsPostings(checks);
         mergesFromFourSegmentsOn(checks);
         mergesTheFewest(checks);
+        mergesByDocumentsNotPostings(checks);
         mergesTheForemostOfEquals(checks);
         mergesByDroppedOnesToo(checks);
         mergesWithoutDroppedOnes(checks);
@@ -257,6 +258,18 @@ public final class IndexBoundsTest {
             }
             checks.dueSegments("a merge of " + java.util.Arrays.toString(row[0]), x, row[1]);
         }
+    }
+
+    /** "the fewest documents": however many postings they have. */
+    private static void mergesByDocumentsNotPostings(Checks checks) {
+        MorphIndex x = Checks.drafted(65);
+        addFlushed(x, 2);
+        addFlushed(x, 2);
+        Checks.draft(x, Checks.repeated(65, 24));
+        addFlushed(x, 1);
+        x.add();
+        checks.due("flush() that merges 48 postings", x.flush(), 24 + 48);
+        checks.dueSegments("the fewest documents", x, 2, 2, 2);
     }
 
     /** "the foremost such two of several" */

@@ -306,6 +306,15 @@ public final class QueryBoundsTest {
         checks.due("it is found as a compound", x.places(1), 1);
         Checks.draft(x, 65, 65);
         checks.due("two of the three tokens", x.places(1), 2);
+        MorphIndex y = Checks.drafted(65, 65, 65);
+        y.add();
+        y.flush();
+        y.open();
+        y.word(2, 1, 0, -1);
+        y.rule(1, 5, 1, 1);
+        y.mode(10000, 0);
+        checks.due("the query has a compound that the text has not", y.token(0, 4), 3);
+        checks.due("the text has the tokens", y.places(0), 1);
     }
 
     /** "The TERM of a token or compound": each filter, on a compound of 5 characters of class 3 and part 2. */
@@ -355,5 +364,20 @@ public final class QueryBoundsTest {
         Checks.draft(x, 255);
         checks.due("places(1) of one of 255", x.places(1), 7);
         checks.due("places(0) of one of 255", x.places(0), 0);
+        for (int place = 0; place < 8; place++) {
+            int[] text = Checks.repeated(65, 8);
+            int[] query = Checks.repeated(65, 8);
+            query[place] = 66;
+            MorphIndex y = new MorphIndex();
+            Checks.enter(y, 1, 0, query);
+            Checks.enter(y, 1, 0, text);
+            y.add();
+            y.flush();
+            y.open();
+            checks.due("places of the same eight", y.places(0), 1);
+            Checks.draft(y, query);
+            checks.due("one token of eight", y.tokens(), 1);
+            checks.due("places of eight that differ at " + place, y.places(0), 0);
+        }
     }
 }

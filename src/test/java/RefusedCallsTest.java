@@ -47,22 +47,28 @@ public final class RefusedCallsTest {
 
     public static void main(String[] args) {
         Checks checks = new Checks();
-        for (Refusal refusal : ofANewObject()) {
-            compare(checks, new State("a new object", calls -> { }), refusal);
+        State busy = new State("a busy object", RefusedCallsTest::busy);
+        State read = new State("a busy object that was read", RefusedCallsTest::busyAndRead);
+        for (State state : List.of(busy, read)) {
+            compareAll(checks, state, ofABusyObject());
+            compareAll(checks, state, readings());
         }
-        for (State state : List.of(new State("a busy object", RefusedCallsTest::busy),
-            new State("a busy object that was read", RefusedCallsTest::busyAndRead))) {
-            for (Refusal refusal : ofABusyObject()) {
-                compare(checks, state, refusal);
-            }
-            for (Refusal reading : readings()) {
-                compare(checks, state, reading);
-            }
-        }
-        for (Refusal refusal : ofAFullObject()) {
-            compare(checks, new State("a full object", RefusedCallsTest::full), refusal);
-        }
+        compareAll(checks, new State("a new object", calls -> { }), ofANewObject());
+        compareAll(checks, busyWithDraft(65, 66), ofAFreeSurface());
+        compareAll(checks, busyWithDraft(), ofAnEmptyDraft());
+        compareAll(checks, busyWithDraft(Checks.repeated(65, 9)), ofALongDraft());
+        compareAll(checks, busyWithDraft(Checks.repeated(65, 20)), ofADraftOfTwenty());
+        compareAll(checks, new State("a busy object where four wait", RefusedCallsTest::fourWait), ofFourThatWait());
+        compareAll(checks, new State("a busy object where none waits", RefusedCallsTest::noneWaits), ofNoneThatWaits());
+        compareAll(checks, new State("a full object", RefusedCallsTest::full), ofAFullObject());
+        compareAll(checks, new State("a full object with a short draft", RefusedCallsTest::fullButDraft), ofForty());
         checks.finish();
+    }
+
+    private static void compareAll(Checks checks, State state, List<Refusal> refusals) {
+        for (Refusal refusal : refusals) {
+            compare(checks, state, refusal);
+        }
     }
 
     private static void compare(Checks checks, State state, Refusal refusal) {
@@ -175,14 +181,72 @@ public final class RefusedCallsTest {
         word(list, 1, 0, 0, -1);
         word(list, 1, 0, 2, -1);
         word(list, 1, 0, 0, 3);
-        // Wrong numbers come before the surface that is full: these would be refused for either.
-        word(list, 0, 0, 0, -1);
-        word(list, 1, 10001, 0, -1);
-        word(list, 1, 0, 1, -1);
-        word(list, 1, 0, 0, 40);
         for (int doc : new int[] {-1, 1, 3, 8, 40, 64, Integer.MIN_VALUE}) {
             drop(list, doc);
         }
+        return list;
+    }
+
+    /** Its draft is two characters of no entry, and ten entries are there: only the numbers are wrong. */
+    private static List<Refusal> ofAFreeSurface() {
+        List<Refusal> list = new ArrayList<>();
+        for (int wrong : new int[] {0, 8, -1, Integer.MIN_VALUE, Integer.MAX_VALUE}) {
+            word(list, wrong, 5, 0, -1);
+        }
+        for (int wrong : new int[] {-10001, 10001, Integer.MIN_VALUE, Integer.MAX_VALUE}) {
+            word(list, 2, wrong, 0, -1);
+        }
+        for (int wrong : new int[] {1, 3, 4, 6, -1, Integer.MIN_VALUE}) {
+            word(list, 2, 5, wrong, -1);
+        }
+        for (int wrong : new int[] {10, 11, 40, -2, Integer.MIN_VALUE}) {
+            word(list, 2, 5, 0, wrong);
+        }
+        word(list, 2, 5, 2, 0);
+        word(list, 2, 5, 2, 9);
+        return list;
+    }
+
+    private static List<Refusal> ofAnEmptyDraft() {
+        List<Refusal> list = new ArrayList<>();
+        type(list, 256);
+        word(list, 2, 5, 0, -1);
+        word(list, 2, 5, 0, 0);
+        list.add(new Refusal("add()", -1, MorphIndex::add));
+        return list;
+    }
+
+    private static List<Refusal> ofALongDraft() {
+        List<Refusal> list = new ArrayList<>();
+        word(list, 2, 5, 0, -1);
+        word(list, 2, 5, 2, -1);
+        word(list, 2, 5, 0, 0);
+        return list;
+    }
+
+    private static List<Refusal> ofADraftOfTwenty() {
+        List<Refusal> list = new ArrayList<>();
+        type(list, Checks.text(1, 2, 3, 4, 5));
+        type(list, -1);
+        return list;
+    }
+
+    private static List<Refusal> ofFourThatWait() {
+        return List.of(new Refusal("add()", -1, MorphIndex::add));
+    }
+
+    private static List<Refusal> ofNoneThatWaits() {
+        return List.of(new Refusal("flush()", -1, MorphIndex::flush));
+    }
+
+    /** All 40 entries and documents are there, the draft is as it should be and no document waits. */
+    private static List<Refusal> ofForty() {
+        List<Refusal> list = new ArrayList<>();
+        word(list, 2, 5, 0, -1);
+        word(list, 2, 5, 2, -1);
+        word(list, 2, 5, 0, 39);
+        list.add(new Refusal("add()", -1, MorphIndex::add));
+        list.add(new Refusal("flush()", -1, MorphIndex::flush));
         return list;
     }
 
@@ -268,6 +332,29 @@ public final class RefusedCallsTest {
         busy(calls);
         calls.x().cost();
         calls.x().match(0);
+    }
+
+    private static State busyWithDraft(int... characters) {
+        return new State("a busy object with a draft of " + characters.length, calls -> {
+            busy(calls);
+            calls.draft(characters);
+        });
+    }
+
+    private static void fourWait(Calls calls) {
+        busy(calls);
+        calls.x().add();
+    }
+
+    private static void noneWaits(Calls calls) {
+        busy(calls);
+        calls.x().flush();
+    }
+
+    private static void fullButDraft(Calls calls) {
+        full(calls);
+        calls.x().flush();
+        calls.draft(201, 202);
     }
 
     private static void full(Calls calls) {
