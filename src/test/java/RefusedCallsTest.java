@@ -181,7 +181,7 @@ public final class RefusedCallsTest {
         word(list, 1, 0, 0, -1);
         word(list, 1, 0, 2, -1);
         word(list, 1, 0, 0, 3);
-        for (int doc : new int[] {-1, 1, 3, 8, 40, 64, Integer.MIN_VALUE}) {
+        for (int doc : new int[] {-1, 1, 3, 8, 40, 64, 64 + 5, 5 - 64, Integer.MIN_VALUE}) {
             drop(list, doc);
         }
         return list;
@@ -311,8 +311,8 @@ public final class RefusedCallsTest {
         calls.x().chain(0, 7);
         calls.x().chain(2, 0);
         calls.x().chain(3, 2);
-        int[][] texts = {{10, 11, 12}, {65, 66, 67}, {65, 66, 67}, {200, 255}, {130, 191, 191}, {10, 65, 66, 67}, {1},
-            {13, 14}};
+        int[][] texts = {{10, 11, 12}, {65, 66, 67}, {65, 66, 67}, {65, 66, 67, 200}, {130, 191, 191},
+            {10, 65, 66, 67}, {1}, {13, 14}};
         for (int doc = 0; doc < texts.length; doc++) {
             calls.draft(texts[doc]);
             calls.x().add();
